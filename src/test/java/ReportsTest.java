@@ -26,6 +26,8 @@ public final class ReportsTest {
         lastParts();
         vainAndLost();
         vainByTheGuardsOwnTimes();
+        reportsAnew();
+        lostByRoom();
         nodesUsedTwice();
         latestReport();
         Check.end();
@@ -132,6 +134,7 @@ public final class ReportsTest {
         Check.due("SIZE leaves all", behind(x, 4, MAKE, 0, 1, -1, 0)[0], ALL);
         Check.due("DEEP", mays(x, DEEP, 0, 1, 0, 0), END | ROOM);
         Check.due("DEEP leaves", behind(x, 0, DEEP, 0, 1, 0, 0)[0], set(5));
+        Check.due("DEEP of none", mays(x, DEEP, 0, 0, 0, 0), END | ROOM);
         Check.due("DEEP below 0", mays(x, DEEP, 0, -1, 0, 0), SIZE);
         Check.due("DEEP below 0", mays(x, DEEP, 0, 0, -1, 0), SIZE);
         Check.due("THIN", mays(x, THIN, 0, 0, -1, 0), END | ROOM);
@@ -263,6 +266,10 @@ public final class ReportsTest {
         copyShows(x, 1, ALL, set(0, 3, 7));
         copyShows(x, 5, ALL & ~1, set(3, 7));
         copyShows(x, 3, set(3, 5, 6, 7), set(3, 7));
+        x = from(set(0, 3, 7), ALL);
+        copyShows(x, 0, set(3, 7), set(3, 5, 6, 7));
+        copyShows(x, 5, set(3, 7), ALL & ~1);
+        copyShows(x, 3, set(3, 7), set(3, 5, 6, 7));
         x = from(set(1, 8), set(2, 9));
         Check.due("COPY of those that do not MEET", mays(x, COPY, 0, 0, 1, 0), STORE);
         copyShows(x, 5, set(1, 8), set(2, 9));
@@ -425,6 +432,53 @@ public final class ReportsTest {
         int again = x.both(root, x.both(clear, guard));
         Check.due("the GUARD twice", x.report(again), END | NOTHING);
         Check.due("not VAIN at one time", x.guarded(guard, 0), 0);
+        int make = x.act(MAKE, 0, 1, 1, 0);
+        int before = x.both(guard, x.both(make, guard));
+        Check.due("the GUARD twice", x.report(before), END | ROOM);
+        Check.due("not VAIN at the first time", x.guarded(guard, 0), 0);
+    }
+
+    private static void reportsAnew() {
+        ThrowReports x = from(set(0, 1), set(2));
+        int length = x.act(LENGTH, 1, 0, 1, 0);
+        int make = x.act(MAKE, 0, 1, 1, 0);
+        int fail = x.act(FAIL, 0, 0, 0, 0);
+        int probe = x.act(NUMBER, 0, 0, 0, 0);
+        int body = x.choice(1, 2, length, make);
+        int guard = x.guard(body, NOTHING | ROOM, probe, -1);
+        int lost = x.guard(body, 0, -1, x.choice(1, 2, fail, probe));
+        Check.due("report", x.report(guard), END);
+        Check.due("VAIN", x.guarded(guard, 0), ROOM);
+        Check.due("HANDLER after NOTHING", x.ahead(probe, 0), set(0));
+        x.given(1, set(3));
+        Check.due("report anew", x.report(guard), END);
+        Check.due("VAIN anew", x.guarded(guard, 0), NOTHING);
+        Check.due("HANDLER after ROOM", x.ahead(probe, 0), set(0, 1));
+        x.given(1, set(2));
+        x.given(0, set(1));
+        Check.due("report anew", x.report(body), END);
+        Check.due("report anew", x.report(guard), END);
+        Check.due("VAIN anew", x.guarded(guard, 0), NOTHING | ROOM);
+        Check.due("HANDLER not REACHED", x.reached(probe), 0);
+        x.given(0, set(0, 1));
+        Check.due("report", x.report(lost), OWN);
+        Check.due("LOST", x.guarded(lost, 1), NOTHING);
+        x.given(1, set(2, 3));
+        Check.due("report", x.report(lost), END | OWN | ROOM);
+        Check.due("LOST on that way alone", x.guarded(lost, 1), NOTHING);
+        x.given(1, set(3));
+        Check.due("report anew", x.report(lost), END | ROOM);
+        Check.due("LOST anew", x.guarded(lost, 1), 0);
+    }
+
+    private static void lostByRoom() {
+        ThrowReports x = from(set(0, 1));
+        int make = x.act(MAKE, 0, 2, 1, 0);
+        int length = x.act(LENGTH, 0, 0, 2, 0);
+        int guard = x.guard(make, 0, -1, length);
+        Check.due("report", x.report(guard), END | NOTHING | UNLIKE);
+        Check.due("LOST", x.guarded(guard, 1), ROOM);
+        Check.due("AHEAD of the LAST PART", x.ahead(length, 0), set(0, 1, 2));
     }
 
     private static void nodesUsedTwice() {

@@ -12,6 +12,7 @@ public final class RunsTest {
         makesDeepAndThin();
         makesFigures();
         room();
+        roomOneByOne();
         moves();
         getsAndSets();
         doubles();
@@ -163,6 +164,27 @@ public final class RunsTest {
         Check.due("last item", does(x, SET, 2, 1, 2998, 0), 0);
         Check.due("cleared", x.clear(), 4);
         Check.due("a row of 3000", does(x, MAKE, 0, 4, 3000), 0);
+    }
+
+    private static void roomOneByOne() {
+        ThrowReports x = new ThrowReports();
+        int row = x.act(MAKE, 0, 1, 0, 0);
+        int figure = x.act(FIGURE, 1, 0, 0, 0);
+        for (int i = 0; i < 99; i++) {
+            Check.due("a row more", x.run(row), 0);
+            Check.due("a FIGURE more", x.run(figure), 0);
+        }
+        Check.due("the 199th", x.run(row), 0);
+        Check.due("the 200th", x.run(figure), 0);
+        Check.due("its number", x.slot(1, 0), 200);
+        Check.due("no row more", x.run(row), ROOM);
+        Check.due("no FIGURE more", x.run(figure), ROOM);
+        x.clear();
+        for (int i = 0; i < 199; i++) {
+            x.run(figure);
+        }
+        Check.due("the 200th", x.run(row), 0);
+        Check.due("its number", x.slot(0, 0), 200);
     }
 
     private static void moves() {
@@ -543,6 +565,9 @@ public final class RunsTest {
         x.run(one);
         Check.due("taken, handled", x.run(x.guard(own, 1 << OWN, add, -1)), 0);
         Check.due("handled", x.register(3), 1);
+        int nothing = x.act(TELLS, 0, 0, 0, 0);
+        Check.due("NOTHING taken", x.run(x.guard(nothing, 1 << NOTHING, -1, -1)), 0);
+        Check.due("NOTHING not taken", x.run(x.guard(nothing, ~(1 << NOTHING), -1, -1)), NOTHING);
         Check.due("not taken", x.run(x.guard(zero, 1 << OWN, add, -1)), ZERO);
         Check.due("not handled", x.register(3), 1);
         Check.due("ends", x.run(x.guard(one, -1, own, -1)), 0);
@@ -657,7 +682,11 @@ public final class RunsTest {
             Check.due("item(1, " + wrong + ")", x.item(1, wrong), 0);
             Check.due("item(8, " + wrong + ")", x.item(8, wrong), 0);
         }
+        does(x, NUMBER, 0, 44, 0);
+        does(x, SET, 1, 1, 0, 0);
+        Check.due("item of a row", x.item(1, 0), 44);
         Check.due("item of a FIGURE", x.item(8, 0), 0);
+        Check.due("item of a ROUND", x.item(9, 0), 0);
         Check.due("item of NOTHING", x.item(0, 0), 0);
         does(x, LAY, 5, 5, 2, 1);
         Check.due("item of a row of rows", x.item(5, 2), 1);
@@ -701,6 +730,8 @@ public final class RunsTest {
             Check.due("rows with another item", x.alike(0, 1), 0);
             does(x, SET, 0, kind, 2, 0);
             Check.due("rows", x.alike(0, 1), 2);
+            does(x, SET, 0, kind, 0, 0);
+            Check.due("rows with another first item", x.alike(0, 1), 0);
             does(x, MAKE, 3, kind, 0);
             does(x, MAKE, 4, kind, 0);
             does(x, MAKE, 5, kind == 1 ? 2 : 1, 0);
