@@ -228,20 +228,16 @@ public final class ThrowReports {
         private static final int[] TAKE_ALL = {0, 2, 4, 8, 16, 32, 64, 192, 0, 0};
         private static final int[] ITEMS = {0, 0, 0, 0, 0, INTS, FIGURE, ROUND, 0, 0};
 
-        static boolean isKind(int kind) {
-            return kind >= 0 && kind <= LATEST;
-        }
-
         static int setOf(int kind) {
-            return isKind(kind) ? 1 << kind : 0;
+            return 1 << kind;
         }
 
         static boolean has(int set, int kind) {
-            return (set & setOf(kind)) != 0;
+            return (set >> kind & 1) != 0;
         }
 
         static int thoseThatAre(int kind) {
-            return isKind(kind) ? ARE[kind] : 0;
+            return kind >= 0 && kind < ARE.length ? ARE[kind] : 0;
         }
 
         static boolean is(int kind, int other) {
@@ -249,15 +245,15 @@ public final class ThrowReports {
         }
 
         static int thoseThatMeet(int kind) {
-            return isKind(kind) ? MEET[kind] : 0;
+            return kind >= 0 && kind < MEET.length ? MEET[kind] : 0;
         }
 
         static int thoseThatTakeAllOf(int kind) {
-            return isKind(kind) ? TAKE_ALL[kind] : 0;
+            return kind >= 0 && kind < TAKE_ALL.length ? TAKE_ALL[kind] : 0;
         }
 
         static int ofItems(int rowKind) {
-            return isKind(rowKind) ? ITEMS[rowKind] : 0;
+            return rowKind >= 0 && rowKind < ITEMS.length ? ITEMS[rowKind] : 0;
         }
 
         static boolean isRow(int kind) {
@@ -288,6 +284,7 @@ public final class ThrowReports {
     /** All THINGS by their numbers; the items of all rows stand one behind the other in one array. */
     private static final class Things {
         private static final long NO_NUMBER = 0x7FF8000000000000L, INFINITE = 0x7FF0000000000000L;
+        private static final long ALL_BUT_SIGN = 0x7FFFFFFFFFFFFFFFL;
 
         // Place 0 is never written, so that NOTHING has KIND 0 and size 0.
         private final int[] kinds = new int[MOST_THINGS + 1];
@@ -333,17 +330,13 @@ public final class ThrowReports {
             return before;
         }
 
-        boolean isThing(int thing) {
-            return thing > 0 && thing <= made;
-        }
-
         int kindOf(int thing) {
-            return isThing(thing) ? kinds[thing] : 0;
+            return thing > 0 && thing <= made ? kinds[thing] : 0;
         }
 
         /** The length of a row, the NUMBER of a FIGURE. */
         int sizeOf(int thing) {
-            return isThing(thing) ? sizes[thing] : 0;
+            return thing > 0 && thing <= made ? sizes[thing] : 0;
         }
 
         boolean hasItem(int thing, int i) {
@@ -364,7 +357,7 @@ public final class ThrowReports {
             switch (rowKind) {
                 case Kinds.INTS: return (int) value;
                 case Kinds.BYTES: return (byte) value;
-                case Kinds.DOUBLES: return (value & Long.MAX_VALUE) > INFINITE ? NO_NUMBER : value;
+                case Kinds.DOUBLES: return (value & ALL_BUT_SIGN) > INFINITE ? NO_NUMBER : value;
                 default: return value;
             }
         }
@@ -387,12 +380,14 @@ public final class ThrowReports {
 
         private int bringOneByOne(int from, int at, int to, int place, int length) {
             int wanted = Kinds.ofItems(kinds[to]);
+            int source = starts[from] + at;
+            int target = starts[to] + place;
             for (int i = 0; i < length; i++) {
-                int thing = (int) read(from, at + i);
+                int thing = (int) items[source + i];
                 if (thing != 0 && !Kinds.is(kindOf(thing), wanted)) {
                     return i;
                 }
-                write(to, place + i, thing);
+                items[target + i] = thing;
             }
             return length;
         }
@@ -410,7 +405,11 @@ public final class ThrowReports {
 
         /** Of rows of THINGS these numbers are those of the THINGS, which are to be the same. */
         private boolean numbersMatch(int one, int other) {
-            for (int i = 0; i < sizes[one]; i++) {
+            int length = sizeOf(one);
+            if (length != sizeOf(other)) {
+                return false;
+            }
+            for (int i = 0; i < length; i++) {
                 if (read(one, i) != read(other, i)) {
                     return false;
                 }
@@ -419,11 +418,12 @@ public final class ThrowReports {
         }
 
         private boolean rowsMatch(int one, int other) {
-            for (int i = 0; i < sizes[one]; i++) {
+            int length = sizeOf(one);
+            for (int i = 0; i < length; i++) {
                 int row = (int) read(one, i);
                 int otherRow = (int) read(other, i);
-                if (row != otherRow && !(isThing(row) && sizeOf(row) == sizeOf(otherRow)
-                        && isThing(otherRow) && numbersMatch(row, otherRow))) {
+                boolean oneIsMissing = row == 0 || otherRow == 0;
+                if (row != otherRow && (oneIsMissing || !numbersMatch(row, otherRow))) {
                     return false;
                 }
             }
@@ -459,7 +459,7 @@ public final class ThrowReports {
         }
 
         boolean holds(int slot, int kind) {
-            return Kinds.is(kindIn(slot), kind);
+            return Kinds.has(Kinds.thoseThatAre(kind), things.kindOf(slots[slot]));
         }
 
         /** Its numbers have been looked at by Act.isAsTold: SLOTS, REGISTERS and KINDS are such. */
@@ -499,13 +499,20 @@ public final class ThrowReports {
         }
 
         private int unlessSomething(int slot, int kind) {
-            int failure = unlessAs(slot, kind);
-            return failure == 0 && slots[slot] == 0 ? NOTHING : failure;
+            if (slots[slot] == 0) {
+                return NOTHING;
+            }
+            return holds(slot, kind) ? 0 : UNLIKE;
         }
 
         private int unlessItem(int slot, int kind, int i) {
-            int failure = unlessSomething(slot, kind);
-            return failure == 0 && !things.hasItem(slots[slot], i) ? PLACE : failure;
+            if (slots[slot] == 0) {
+                return NOTHING;
+            }
+            if (!holds(slot, kind)) {
+                return UNLIKE;
+            }
+            return things.hasItem(slots[slot], i) ? 0 : PLACE;
         }
 
         private int make(int slot, int kind, int length) {
@@ -683,7 +690,7 @@ public final class ThrowReports {
         void keep(int slot, int set) {
             sets[slot] &= set;
             if (sets[slot] == 0) {
-                erase();
+                Arrays.fill(sets, 0);
             }
         }
 
@@ -857,22 +864,23 @@ public final class ThrowReports {
             return failure;
         }
 
+        /** Where no STATE is left, the questions behind it add nothing: all sets are empty then. */
         void findWays(State from) {
             left.become(from);
-            askAll();
-            ways.by(Ways.END).join(left);
-        }
-
-        /** Where no STATE is left, the questions behind it add nothing: all sets are empty then. */
-        private void askAll() {
             switch (op) {
                 case MAKE: askNew(c < 0, Kinds.setOf(b)); break;
                 case DEEP: askNew(b < 0 || c < 0, Kinds.setOf(Kinds.DEEP_ROW)); break;
                 case THIN: askNew(b < 0, Kinds.setOf(Kinds.DEEP_ROW)); break;
                 case FIGURE: askNew(false, Kinds.setOf(b == 0 ? Kinds.FIGURE : Kinds.ROUND)); break;
                 case MOVE: askMove(); break;
-                case GET: askItem(b, c); break;
-                case SET: askItem(a, b); break;
+                case GET:
+                    askSomething(b, c);
+                    mayFail(PLACE);
+                    break;
+                case SET:
+                    askSomething(a, b);
+                    mayFail(PLACE);
+                    break;
                 case TAKE: askTake(); break;
                 case LAY: askLay(); break;
                 case LENGTH: askSomething(b, c); break;
@@ -887,6 +895,7 @@ public final class ThrowReports {
                 case FAIL: mustFail(OWN); break;
                 default: break;
             }
+            ways.by(Ways.END).join(left);
         }
 
         private void mayFail(int failure) {
@@ -918,13 +927,8 @@ public final class ThrowReports {
         }
 
         private void askSomething(int slot, int kind) {
-            askAs(slot, kind);
+            failFor(UNLIKE, slot, ~(Kinds.thoseThatAre(kind) | Kinds.JUST_NOTHING));
             failFor(NOTHING, slot, Kinds.JUST_NOTHING);
-        }
-
-        private void askItem(int slot, int kind) {
-            askSomething(slot, kind);
-            mayFail(PLACE);
         }
 
         private void askNew(boolean wrongSize, int set) {
@@ -943,7 +947,8 @@ public final class ThrowReports {
         }
 
         private void askTake() {
-            askItem(b, c);
+            askSomething(b, c);
+            mayFail(PLACE);
             int set = Kinds.JUST_NOTHING;
             if (c == Kinds.DEEP_ROW) {
                 set |= Kinds.setOf(Kinds.INTS);
@@ -959,7 +964,8 @@ public final class ThrowReports {
         private void askLay() {
             askAs(a, b);
             askAs(d, Kinds.ofItems(b));
-            askItem(a, b);
+            failFor(NOTHING, a, Kinds.JUST_NOTHING);
+            mayFail(PLACE);
             if (left.has(a, Kinds.ROUNDS) && left.has(d, Kinds.FIGURE)) {
                 mayFail(STORE);
                 keepWhatLays();
