@@ -219,7 +219,7 @@ public final class ThrowReports {
         static final int INTS = 1, BYTES = 2, DOUBLES = 4, DEEP_ROW = 5, FIGURES = 6, ROUNDS = 7, FIGURE = 8, ROUND = 9;
         static final int LATEST = 9, LATEST_ROW = 7;
         static final int JUST_NOTHING = 1, ALL = 1023;
-        static final int NUMBER_ROWS = 30, THING_ROWS = 224, ROWS = 254;
+        static final int NUMBER_ROWS = 30, FIGURE_ROWS = 192, THING_ROWS = 224, ROWS = 254;
 
         // By KIND k: the KINDS that ARE k; those that MEET k; those of a row to which a COPY of
         // items of a row of KIND k can't fail by STORE; the KIND that the items of a row are.
@@ -808,7 +808,7 @@ public final class ThrowReports {
         // What a number may be, as a set: bit v stands for v.
         private static final int ANY = -1, A_SLOT = 0xFFF, A_REGISTER = 0xFF;
         private static final int[] FORMS = {
-            A_SLOT, Kinds.NUMBER_ROWS | 192, ANY, ANY, // MAKE
+            A_SLOT, Kinds.NUMBER_ROWS | Kinds.FIGURE_ROWS, ANY, ANY, // MAKE
             A_SLOT, ANY, ANY, ANY, // DEEP
             A_SLOT, ANY, ANY, ANY, // THIN
             A_SLOT, ANY, ANY, ANY, // FIGURE
