@@ -2,24 +2,40 @@
 final class Check {
     private static int asked = 0;
     private static int wrong = 0;
+    private static String sentence = "";
 
     private Check() {
+    }
+
+    /** The sentence of the document by which the answers that are asked next are due. */
+    static void by(String words) {
+        sentence = words;
     }
 
     static void due(String what, long got, long want) {
         asked++;
         if (got != want) {
-            wrong++;
-            System.out.println(what + " answered " + got + ", due is " + want);
+            tellWrong(what + " answered " + got + ", due is " + want);
         }
     }
 
     static void holds(String what, boolean held) {
         asked++;
         if (!held) {
-            wrong++;
-            System.out.println(what + " does not hold");
+            tellWrong(what + " does not hold");
         }
+    }
+
+    static void same(String what, String got, String want) {
+        asked++;
+        if (!got.equals(want)) {
+            tellWrong(what + ": seen is\n  " + got + "\nwhere this is due:\n  " + want);
+        }
+    }
+
+    private static void tellWrong(String text) {
+        wrong++;
+        System.out.println(text + (sentence.isEmpty() ? "" : "   (" + sentence + ")"));
     }
 
     static void end() {

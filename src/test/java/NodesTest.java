@@ -1,33 +1,12 @@
 /** Promises 1 to 6 and 10: a new object, and how NODES are made, counted, refused and forgotten. */
-public final class NodesTest {
-    private static final int BAD = ThrowReports.BAD, FULL = ThrowReports.FULL;
-    private static final int MIN = Integer.MIN_VALUE, MAX = Integer.MAX_VALUE;
-
-    // What a number of an ACT may be: any, a SLOT, a REGISTER, or one of some KINDS.
-    private static final String ANY = null, SLOT = "0 1 2 3 4 5 6 7 8 9 10 11", REGISTER = "0 1 2 3 4 5 6 7";
-    private static final String NUMBERS = "1 2 3 4", OTHERS = "5 6 7";
-    private static final String[][] FORMS = {
-        {SLOT, "1 2 3 4 6 7", ANY, ANY}, {SLOT, ANY, ANY, ANY}, {SLOT, ANY, ANY, ANY}, {SLOT, ANY, ANY, ANY},
-        {SLOT, SLOT, "0 1 2 3 4 5 6 7 8 9", ANY}, {REGISTER, SLOT, NUMBERS, ANY}, {SLOT, NUMBERS, ANY, REGISTER},
-        {SLOT, SLOT, OTHERS, ANY}, {SLOT, OTHERS, ANY, SLOT}, {REGISTER, SLOT, "1 2 3 4 5 6 7", ANY},
-        {SLOT, SLOT, ANY, ANY}, {REGISTER, SLOT, ANY, ANY}, {SLOT, ANY, SLOT, ANY}, {REGISTER, ANY, ANY, ANY},
-        {REGISTER, REGISTER, REGISTER, ANY}, {REGISTER, REGISTER, REGISTER, ANY}, {REGISTER, REGISTER, REGISTER, ANY},
-        {ANY, ANY, ANY, ANY}};
-    private static final int[] TRIED = {MIN, MIN + 1, -33, -32, -31, -2, -1, 0, 1, 2, 3, 4, 5, 6, 7, 8, 9, 10, 11, 12, 13,
-        31, 32, 33, 39, 40, 63, 64, 65, 99, 1023, 1024, MAX};
-
+public final class NodesTest extends Words {
     public static void main(String[] args) {
         newObject();
         constants();
-        numbersOfActs();
         opsOfActs();
-        fullOfActs();
         bothNodes();
         choiceNodes();
         guardNodes();
-        costs();
-        fullByCost();
-        badBeforeFull();
         forgetting();
         counting();
         Check.end();
@@ -66,65 +45,14 @@ public final class NodesTest {
         Check.due("FULL", FULL, -2);
     }
 
-    private static boolean fits(String form, int value) {
-        return form == null || (" " + form + " ").contains(" " + value + " ");
-    }
-
-    private static void numbersOfActs() {
-        for (int op = 0; op < FORMS.length; op++) {
-            for (int place = 0; place < 4; place++) {
-                for (int value : TRIED) {
-                    int[] n = new int[4];
-                    for (int i = 0; i < 4; i++) {
-                        n[i] = FORMS[op][i] == null ? 0 : FORMS[op][i].charAt(0) - '0';
-                    }
-                    n[place] = value;
-                    ThrowReports x = new ThrowReports();
-                    int want = fits(FORMS[op][place], value) ? 0 : BAD;
-                    String call = "act(" + op + ", " + n[0] + ", " + n[1] + ", " + n[2] + ", " + n[3] + ")";
-                    Check.due(call, x.act(op, n[0], n[1], n[2], n[3]), want);
-                    Check.due("NODES after " + call, x.count(2), want == 0 ? 1 : 0);
-                }
-            }
-        }
-    }
-
     private static void opsOfActs() {
         ThrowReports x = new ThrowReports();
-        for (int op : TRIED) {
-            if (op < 0 || op > 17) {
-                Check.due("op " + op, x.act(op, 1, 1, 1, 1), BAD);
-            }
+        for (int op : new int[] {MIN, -18, -1, 18, 19, 31, 32, 64, MAX}) {
+            Check.due("op " + op, x.act(op, 1, 1, 1, 1), BAD);
         }
-        Check.due("op 18", x.act(18, 1, 1, 1, 1), BAD);
         for (int op = 0; op < 18; op++) {
             Check.due("op " + op, x.act(op, 1, op == 8 ? 5 : 1, op == 7 ? 5 : 1, 1), op);
         }
-    }
-
-    private static void fullOfActs() {
-        ThrowReports x = new ThrowReports();
-        for (int i = 0; i < 80; i++) {
-            Check.due("act " + i, x.act(17, 0, 0, 0, 0), i);
-        }
-        Check.due("act 81", x.act(17, 0, 0, 0, 0), FULL);
-        Check.due("both of 80", x.both(0, 79), FULL);
-        Check.due("choice of 80", x.choice(0, 0, 0, 79), FULL);
-        Check.due("guard of 80", x.guard(0, 0, -1, -1), FULL);
-        Check.due("NODES", x.count(2), 80);
-        Check.due("COST", x.count(3), 1);
-    }
-
-    private static void badBeforeFull() {
-        ThrowReports x = new ThrowReports();
-        for (int i = 0; i < 80; i++) {
-            x.act(17, 0, 0, 0, 0);
-        }
-        Check.due("act: bad, then full", x.act(18, 0, 0, 0, 0), BAD);
-        Check.due("act: bad, then full", x.act(0, 12, 1, 0, 0), BAD);
-        Check.due("both: bad, then full", x.both(0, 80), BAD);
-        Check.due("choice: bad, then full", x.choice(0, 10, 0, 0), BAD);
-        Check.due("guard: bad, then full", x.guard(0, 0, 80, -1), BAD);
     }
 
     private static void bothNodes() {
@@ -190,56 +118,6 @@ public final class NodesTest {
         Check.due("ZERO not taken", x.run(x.guard(1, 1 << 7, -1, -1)), 6);
         Check.due("ZERO taken", x.run(x.guard(1, 1 << 6, -1, -1)), 0);
         Check.due("bits 7 + 32", x.run(x.guard(0, 1, -1, -1)), 7);
-    }
-
-    private static void costs() {
-        ThrowReports x = new ThrowReports();
-        x.act(17, 0, 0, 0, 0);
-        Check.due("COST of an ACT", x.count(3), 1);
-        x.both(0, 0);
-        Check.due("COST of BOTH", x.count(3), 3);
-        x.choice(0, 0, 0, 1);
-        Check.due("COST of a CHOICE", x.count(3), 5);
-        x.guard(2, 0, -1, -1);
-        Check.due("COST of a GUARD", x.count(3), 6);
-        x.guard(2, 0, 1, -1);
-        Check.due("COST with HANDLER", x.count(3), 9);
-        x.guard(2, 0, -1, 1);
-        Check.due("COST with LAST", x.count(3), 33);
-        x.guard(2, 0, 1, 1);
-        Check.due("COST with both", x.count(3), 36);
-    }
-
-    private static void fullByCost() {
-        ThrowReports x = new ThrowReports();
-        x.act(17, 0, 0, 0, 0);
-        x.both(0, 0);
-        x.both(1, 1);
-        x.both(2, 2);
-        x.both(3, 3);
-        x.both(4, 4);
-        Check.due("COST 63", x.count(3), 63);
-        Check.due("COST 127", x.both(5, 5), FULL);
-        Check.due("COST 95", x.both(5, 4), 6);
-        Check.due("COST 97", x.both(6, 0), 7);
-        Check.due("COST 101", x.both(7, 1), FULL);
-        Check.due("COST 101", x.choice(0, 0, 7, 1), FULL);
-        Check.due("COST 101", x.guard(7, 0, 1, -1), FULL);
-        Check.due("COST 99", x.choice(0, 0, 7, 0), 8);
-        Check.due("COST 100", x.guard(8, 0, -1, -1), 9);
-        Check.due("COST 100", x.count(3), 100);
-        Check.due("COST 101", x.guard(9, 0, -1, -1), FULL);
-        Check.due("COST 101", x.both(8, 0), FULL);
-        Check.due("NODES", x.count(2), 10);
-        Check.due("latest COST", x.count(3), 100);
-        Check.due("COST of nine LAST PARTS", x.guard(6, 0, -1, 0), FULL);
-        x.guard(0, 0, -1, -1);
-        x.guard(10, 0, -1, -1);
-        Check.due("COST 3", x.count(3), 3);
-        x.both(11, 11);
-        x.choice(0, 0, 12, 11);
-        Check.due("COST 11", x.count(3), 11);
-        Check.due("COST 101 by a LAST PART", x.guard(0, 0, -1, 13), FULL);
     }
 
     private static void forgetting() {

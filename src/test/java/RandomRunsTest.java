@@ -50,7 +50,7 @@ public final class RandomRunsTest {
     }
 
     private int node() {
-        int nodes = x.count(2);
+        int nodes = o.count(2);
         return nodes == 0 || random.nextInt(40) == 0 ? odd() : random.nextInt(3) == 0 ? nodes - 1 : random.nextInt(nodes);
     }
 

@@ -1,13 +1,8 @@
 /** Promises 15 to 20: START, and what a REPORT tells of acts, choices and guards. */
-public final class ReportsTest {
-    private static final int BAD = ThrowReports.BAD;
-    private static final int MIN = Integer.MIN_VALUE, MAX = Integer.MAX_VALUE;
-    private static final int MAKE = 0, DEEP = 1, THIN = 2, FIGURE = 3, MOVE = 4, GET = 5, SET = 6, TAKE = 7, LAY = 8;
-    private static final int LENGTH = 9, CLONE = 10, TELLS = 11, COPY = 12, NUMBER = 13, ADD = 14, DIVIDE = 15;
-    private static final int REST = 16, FAIL = 17;
+public final class ReportsTest extends Words {
+    // The bits of what a NODE MAY.
     private static final int END = 1, NOTHING = 2, UNLIKE = 4, PLACE = 8, SIZE = 16, STORE = 32, ZERO = 64, OWN = 128;
     private static final int ROOM = 256;
-    private static final int ALL = 1023;
 
     public static void main(String[] args) {
         starts();
@@ -31,14 +26,6 @@ public final class ReportsTest {
         nodesUsedTwice();
         latestReport();
         Check.end();
-    }
-
-    private static int set(int... kinds) {
-        int set = 0;
-        for (int kind : kinds) {
-            set |= 1 << kind;
-        }
-        return set;
     }
 
     /** An object with START sets for SLOTS 0, 1, ..; what is left out stays just NOTHING. */

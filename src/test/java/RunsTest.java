@@ -1,12 +1,5 @@
 /** Promises 7 to 14: what runs do, act by act and node by node, and what can be seen of it. */
-public final class RunsTest {
-    private static final int BAD = ThrowReports.BAD;
-    private static final int MIN = Integer.MIN_VALUE, MAX = Integer.MAX_VALUE;
-    private static final int NOTHING = 1, UNLIKE = 2, PLACE = 3, SIZE = 4, STORE = 5, ZERO = 6, OWN = 7, ROOM = 8;
-    private static final int MAKE = 0, DEEP = 1, THIN = 2, FIGURE = 3, MOVE = 4, GET = 5, SET = 6, TAKE = 7, LAY = 8;
-    private static final int LENGTH = 9, CLONE = 10, TELLS = 11, COPY = 12, NUMBER = 13, ADD = 14, DIVIDE = 15;
-    private static final int REST = 16, FAIL = 17;
-
+public final class RunsTest extends Words {
     public static void main(String[] args) {
         makes();
         makesDeepAndThin();
@@ -33,37 +26,6 @@ public final class RunsTest {
         looks();
         likeness();
         Check.end();
-    }
-
-    /** Makes an ACT, runs it and forgets it; SLOTS and THINGS stay. */
-    private static int does(ThrowReports x, int op, int a, int b, int c, int d) {
-        int node = x.act(op, a, b, c, d);
-        int failure = x.run(node);
-        x.forget();
-        return failure;
-    }
-
-    private static int does(ThrowReports x, int op, int a, int b, int c) {
-        return does(x, op, a, b, c, 0);
-    }
-
-    /** SLOT 0 NOTHING, SLOT k a THING of KIND k: rows of 3 items, NUMBERS 5. */
-    private static ThrowReports oneOfEach() {
-        ThrowReports x = new ThrowReports();
-        for (int kind = 1; kind <= 7; kind++) {
-            if (kind == 5) {
-                does(x, THIN, 5, 3, 0);
-            } else {
-                does(x, MAKE, kind, kind, 3);
-            }
-        }
-        does(x, FIGURE, 8, 0, 5);
-        does(x, FIGURE, 9, 1, 5);
-        return x;
-    }
-
-    private static boolean is(int kind, int other) {
-        return kind == other || kind == 9 && other == 8 || kind == 7 && other == 6;
     }
 
     private static void makes() {
@@ -397,12 +359,6 @@ public final class RunsTest {
         for (int i = 0; i < length; i++) {
             does(x, NUMBER, 0, i + 1, 0);
             does(x, SET, slot, kind, i, 0);
-        }
-    }
-
-    private static void hasItems(String what, ThrowReports x, int slot, long... want) {
-        for (int i = 0; i < want.length; i++) {
-            Check.due(what + ", item " + i, x.item(slot, i), want[i]);
         }
     }
 
