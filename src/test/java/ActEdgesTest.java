@@ -72,7 +72,7 @@ public final class ActEdgesTest extends Words {
                     if (want == 0) {
                         Check.due(what, does(oneOfEach(), op, n[0], n[1], n[2], n[3]), 0);
                     } else {
-                        fails(what, oneOfEach(), want, op, n[0], n[1], n[2], n[3]);
+                        fails(what, oneOfEachFilled(), want, op, n[0], n[1], n[2], n[3]);
                     }
                 }
             }
@@ -90,7 +90,7 @@ public final class ActEdgesTest extends Words {
                     Check.due(what, does(x, LAY, kind, kind, 1, held), 0);
                     hasItems(what, x, kind, 0, held, 0);
                 } else {
-                    fails(what, oneOfEach(), UNLIKE, LAY, kind, kind, 1, held);
+                    fails(what, oneOfEachFilled(), UNLIKE, LAY, kind, kind, 1, held);
                 }
             }
         }
@@ -111,6 +111,8 @@ public final class ActEdgesTest extends Words {
     private static void itemOf(int op, int kind, int length, int i) {
         ThrowReports x = new ThrowReports();
         makeOne(x, 1, kind, length);
+        does(x, NUMBER, 3, 9, 0);
+        does(x, FIGURE, 10, 0, 9);
         int[] n = asking(op, 1, kind, i);
         String what = "op " + op + " of KIND " + kind + ", item " + i + " of " + length;
         if (i >= 0 && i < length) {
@@ -123,21 +125,25 @@ public final class ActEdgesTest extends Words {
     private static void itemsOfLaidRows() {
         Check.by("Its questions are asked in the order told; the first that fails is its FAILURE");
         for (int i : new int[] {MIN, -1, 3, MAX}) {
-            fails("GET of NOTHING at no place", oneOfEach(), NOTHING, GET, 3, 0, 1, i);
-            fails("GET of another KIND at no place", oneOfEach(), UNLIKE, GET, 3, 2, 1, i);
-            fails("SET of NOTHING at no place", oneOfEach(), NOTHING, SET, 0, 1, i, 3);
-            fails("SET of another KIND at no place", oneOfEach(), UNLIKE, SET, 2, 1, i, 3);
-            fails("TAKE of NOTHING at no place", oneOfEach(), NOTHING, TAKE, 3, 0, 6, i);
-            fails("TAKE of another KIND at no place", oneOfEach(), UNLIKE, TAKE, 3, 6, 7, i);
+            fails("GET of NOTHING at no place", oneOfEachFilled(), NOTHING, GET, 3, 0, 1, i);
+            fails("GET of another KIND at no place", oneOfEachFilled(), UNLIKE, GET, 3, 2, 1, i);
+            fails("SET of NOTHING at no place", oneOfEachFilled(), NOTHING, SET, 0, 1, i, 3);
+            fails("SET of another KIND at no place", oneOfEachFilled(), UNLIKE, SET, 2, 1, i, 3);
+            fails("TAKE of NOTHING at no place", oneOfEachFilled(), NOTHING, TAKE, 3, 0, 6, i);
+            fails("TAKE of another KIND at no place", oneOfEachFilled(), UNLIKE, TAKE, 3, 6, 7, i);
         }
     }
 
+    /** SLOT 0 a row of rows, SLOTS 1 and 4 rows of ints, SLOT 2 a FIGURE, SLOT 3 a ROUND; no room for more. */
     private static ThrowReports withoutRoom() {
         ThrowReports x = new ThrowReports();
-        does(x, DEEP, 0, 196, 0);
-        does(x, MAKE, 1, 1, 2804);
+        does(x, DEEP, 0, 195, 0);
+        does(x, MAKE, 1, 1, 2802);
         does(x, FIGURE, 2, 0, 5);
         does(x, FIGURE, 3, 1, 5);
+        does(x, MAKE, 4, 1, 3);
+        does(x, NUMBER, 0, 70, 0);
+        does(x, SET, 4, 1, 1, 0);
         Check.due("THINGS", x.count(0), 200);
         Check.due("items", x.count(1), 3000);
         return x;
@@ -147,10 +153,10 @@ public final class ActEdgesTest extends Words {
         Check.by("0 MAKE: SLOT a becomes a row of KIND b (1, 2, 3, 4, 6, 7) of c items: SIZE, if c is below 0; NEW.");
         for (int kind : new int[] {1, 2, 3, 4, 6, 7}) {
             for (int size : new int[] {-1, -2, -3001, MIN + 1, MIN}) {
-                fails("MAKE of " + size, oneOfEach(), SIZE, MAKE, 1, kind, size, 0);
+                fails("MAKE of " + size, oneOfEachFilled(), SIZE, MAKE, 1, kind, size, 0);
                 fails("MAKE of " + size + " without room", withoutRoom(), SIZE, MAKE, 1, kind, size, 0);
             }
-            fails("MAKE of too many", oneOfEach(), ROOM, MAKE, 1, kind, 3001, 0);
+            fails("MAKE of too many", oneOfEachFilled(), ROOM, MAKE, 1, kind, 3001, 0);
             fails("MAKE of none without room", withoutRoom(), ROOM, MAKE, 1, kind, 0, 0);
             ThrowReports x = new ThrowReports();
             Check.due("MAKE of none", does(x, MAKE, 11, kind, 0), 0);
@@ -168,7 +174,7 @@ public final class ActEdgesTest extends Words {
         int[][] wrong = {{-1, 0}, {0, -1}, {-1, -1}, {MIN, 0}, {0, MIN}, {1, -1}, {-1, 1}, {MIN, MIN}, {MAX, -1}, {-1, MAX}, {200, MIN}};
         for (int[] size : wrong) {
             String what = "DEEP of " + size[0] + " by " + size[1];
-            fails(what, oneOfEach(), SIZE, DEEP, 1, size[0], size[1], 0);
+            fails(what, oneOfEachFilled(), SIZE, DEEP, 1, size[0], size[1], 0);
             fails(what + " without room", withoutRoom(), SIZE, DEEP, 1, size[0], size[1], 0);
         }
         fails("DEEP of none without room", withoutRoom(), ROOM, DEEP, 1, 0, 0, 0);
@@ -188,10 +194,10 @@ public final class ActEdgesTest extends Words {
     private static void makesThin() {
         Check.by("2 THIN: SLOT a becomes a row of KIND 5 of b items NOTHING: SIZE; NEW.");
         for (int size : new int[] {-1, -2, MIN}) {
-            fails("THIN of " + size, oneOfEach(), SIZE, THIN, 1, size, 0, 0);
+            fails("THIN of " + size, oneOfEachFilled(), SIZE, THIN, 1, size, 0, 0);
             fails("THIN of " + size + " without room", withoutRoom(), SIZE, THIN, 1, size, 0, 0);
         }
-        fails("THIN of too many", oneOfEach(), ROOM, THIN, 1, 3001, 0, 0);
+        fails("THIN of too many", oneOfEachFilled(), ROOM, THIN, 1, 3001, 0, 0);
         fails("THIN of none without room", withoutRoom(), ROOM, THIN, 1, 0, 0, 0);
         ThrowReports x = new ThrowReports();
         Check.due("THIN of none", does(x, THIN, 1, 0, -1, -1), 0);
@@ -288,28 +294,28 @@ public final class ActEdgesTest extends Words {
         hasItems("rows", x, 5, 0, 0, 1);
         Check.due("LAY of NOTHING in FIGURES", does(x, LAY, 6, 6, 0, 0), 0);
         hasItems("NOTHING", x, 6, 0, 0, 0);
-        fails("LAY of a row in itself", oneOfEach(), UNLIKE, LAY, 5, 5, 1, 5);
-        fails("LAY of NOTHING in NOTHING", oneOfEach(), NOTHING, LAY, 0, 5, 1, 0);
+        fails("LAY of a row in itself", oneOfEachFilled(), UNLIKE, LAY, 5, 5, 1, 5);
+        fails("LAY of NOTHING in NOTHING", oneOfEachFilled(), NOTHING, LAY, 0, 5, 1, 0);
     }
 
     private static void laysStore() {
         Check.by("STORE, if that row has KIND 7 and this KIND 8.");
-        fails("LAY of a FIGURE in ROUNDS AS 6", oneOfEach(), STORE, LAY, 7, 6, 0, 8);
-        fails("LAY of a FIGURE in ROUNDS AS 6, the last", oneOfEach(), STORE, LAY, 7, 6, 2, 8);
-        fails("LAY of a FIGURE in ROUNDS AS 7", oneOfEach(), UNLIKE, LAY, 7, 7, 0, 8);
-        fails("LAY of a FIGURE in FIGURES AS 7", oneOfEach(), UNLIKE, LAY, 6, 7, 0, 8);
-        fails("LAY of a ROUND in FIGURES AS 7", oneOfEach(), UNLIKE, LAY, 6, 7, 0, 9);
+        fails("LAY of a FIGURE in ROUNDS AS 6", oneOfEachFilled(), STORE, LAY, 7, 6, 0, 8);
+        fails("LAY of a FIGURE in ROUNDS AS 6, the last", oneOfEachFilled(), STORE, LAY, 7, 6, 2, 8);
+        fails("LAY of a FIGURE in ROUNDS AS 7", oneOfEachFilled(), UNLIKE, LAY, 7, 7, 0, 8);
+        fails("LAY of a FIGURE in FIGURES AS 7", oneOfEachFilled(), UNLIKE, LAY, 6, 7, 0, 8);
+        fails("LAY of a ROUND in FIGURES AS 7", oneOfEachFilled(), UNLIKE, LAY, 6, 7, 0, 9);
     }
 
     private static void laysInOrder() {
         Check.by("Its questions are asked in the order told; the first that fails is its FAILURE");
         for (int i : new int[] {MIN, -1, 3, MAX}) {
-            fails("LAY, PLACE ahead of STORE", oneOfEach(), PLACE, LAY, 7, 6, i, 8);
-            fails("LAY, UNLIKE of a row ahead of PLACE", oneOfEach(), UNLIKE, LAY, 5, 6, i, 8);
-            fails("LAY, UNLIKE of what is laid ahead of PLACE", oneOfEach(), UNLIKE, LAY, 6, 6, i, 1);
-            fails("LAY, UNLIKE of what is laid ahead of NOTHING", oneOfEach(), UNLIKE, LAY, 0, 6, i, 1);
-            fails("LAY, NOTHING ahead of PLACE", oneOfEach(), NOTHING, LAY, 0, 6, i, 8);
-            fails("LAY of NOTHING, PLACE", oneOfEach(), PLACE, LAY, 6, 6, i, 0);
+            fails("LAY, PLACE ahead of STORE", oneOfEachFilled(), PLACE, LAY, 7, 6, i, 8);
+            fails("LAY, UNLIKE of a row ahead of PLACE", oneOfEachFilled(), UNLIKE, LAY, 5, 6, i, 8);
+            fails("LAY, UNLIKE of what is laid ahead of PLACE", oneOfEachFilled(), UNLIKE, LAY, 6, 6, i, 1);
+            fails("LAY, UNLIKE of what is laid ahead of NOTHING", oneOfEachFilled(), UNLIKE, LAY, 0, 6, i, 1);
+            fails("LAY, NOTHING ahead of PLACE", oneOfEachFilled(), NOTHING, LAY, 0, 6, i, 8);
+            fails("LAY of NOTHING, PLACE", oneOfEachFilled(), PLACE, LAY, 6, 6, i, 0);
         }
     }
 
@@ -350,9 +356,10 @@ public final class ActEdgesTest extends Words {
         hasItems("CLONE to its own SLOT", x, 2, MIN, 0, MAX);
         Check.due("another THING", x.slot(2, 0), 5);
         Check.due("items", x.count(1), 9);
-        fails("CLONE without room", withoutRoom(), ROOM, CLONE, 4, 1, 0, 0);
+        fails("CLONE without room", withoutRoom(), ROOM, CLONE, 5, 1, 0, 0);
         fails("CLONE to its own SLOT without room", withoutRoom(), ROOM, CLONE, 1, 1, 0, 0);
-        fails("CLONE of NOTHING without room", withoutRoom(), NOTHING, CLONE, 1, 4, 0, 0);
+        fails("CLONE to another row's SLOT without room", withoutRoom(), ROOM, CLONE, 1, 4, 0, 0);
+        fails("CLONE of NOTHING without room", withoutRoom(), NOTHING, CLONE, 1, 5, 0, 0);
         fails("CLONE of another KIND without room", withoutRoom(), UNLIKE, CLONE, 1, 0, 0, 0);
     }
 
@@ -363,7 +370,7 @@ public final class ActEdgesTest extends Words {
         Check.due("a FIGURE", x.register(7), 5);
         Check.due("TELLS of a ROUND", does(x, TELLS, 0, 9, -1, -1), 0);
         Check.due("a ROUND", x.register(0), 11);
-        fails("TELLS of NOTHING", oneOfEach(), NOTHING, TELLS, 0, 11, 0, 0);
+        fails("TELLS of NOTHING", oneOfEachFilled(), NOTHING, TELLS, 3, 0, 0, 0);
     }
 
     private static void numbers() {
@@ -432,7 +439,7 @@ public final class ActEdgesTest extends Words {
     private static void failsOnItsOwn() {
         Check.by("17 FAIL: OWN.");
         for (int n : AROUND) {
-            fails("FAIL", oneOfEach(), OWN, FAIL, n, n, n, n);
+            fails("FAIL", oneOfEachFilled(), OWN, FAIL, n, n, n, n);
         }
     }
 }

@@ -19,6 +19,9 @@ public final class LookEdgesTest extends Words {
         alikeFigures();
         alikeRowsOfRows();
         alikeRowsOfFigures();
+        looksLeaveAll();
+        reportsLeaveTheMachine();
+        objectsAreTheirOwn();
         Check.end();
     }
 
@@ -372,5 +375,58 @@ public final class LookEdgesTest extends Words {
                 areAlike("the same ROUNDS in rows of two KINDS", x, 0);
             }
         }
+    }
+
+    /** SLOTS 0 .. 9 as in oneOfEach(), two NODES, a run and a REPORT of them. */
+    private static ThrowReports runAndReported() {
+        ThrowReports x = oneOfEach();
+        int get = x.act(GET, 3, 1, 1, 3);
+        int guard = x.guard(get, set(SIZE), -1, get);
+        x.given(1, set(0, 1, 2));
+        x.run(guard);
+        x.report(guard);
+        return x;
+    }
+
+    private static void looksLeaveAll() {
+        Check.by("Nothing is promised beyond the answers and state changes described above");
+        ThrowReports x = runAndReported();
+        String before = Seen.of(x);
+        for (int i = 0; i < 6; i++) {
+            x.ran(i);
+            x.count(i);
+            x.slot(6, i);
+            x.item(6, i);
+            x.register(i);
+            x.alike(1, i);
+            x.reached(i);
+            x.may(i);
+            x.ahead(1, i);
+            x.guarded(1, i);
+        }
+        Check.same("after looks", Seen.of(x), before);
+    }
+
+    private static void reportsLeaveTheMachine() {
+        Check.by("Promise 16, A REPORT of a NODE is made: what it MAY");
+        ThrowReports x = runAndReported();
+        String before = Seen.ofMachine(x) + Seen.ofRun(x) + Seen.ofStart(x);
+        int make = x.act(MAKE, 0, 1, 1, 0);
+        int copy = x.act(COPY, 1, 0, 1, 1);
+        x.report(x.both(make, x.both(copy, x.guard(1, -1, make, copy))));
+        Check.same("after a REPORT", Seen.ofMachine(x) + Seen.ofRun(x) + Seen.ofStart(x), before);
+    }
+
+    private static void objectsAreTheirOwn() {
+        Check.by("Promise 1, NOTHING in all SLOTS, REGISTERS 0, no THINGS, no NODES; START has just 0 for each SLOT; no REPORT.");
+        String first = Seen.of(new ThrowReports());
+        ThrowReports x = runAndReported();
+        String before = Seen.of(x);
+        ThrowReports other = new ThrowReports();
+        Check.same("a new object beside another", Seen.of(other), first);
+        does(other, FIGURE, 0, 0, 5);
+        other.clear();
+        other.given(0, ALL);
+        Check.same("an object beside another that is used", Seen.of(x), before);
     }
 }

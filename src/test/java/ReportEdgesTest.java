@@ -23,6 +23,7 @@ public final class ReportEdgesTest extends Words {
         choices();
         handlers();
         lastParts();
+        lastPartsFromEachWay();
         vains();
         losts();
         neverAnEmptyOne();
@@ -456,6 +457,37 @@ public final class ReportEdgesTest extends Words {
         Check.due("END and what is taken put together", x.report(bare), set(END, NOTHING, UNLIKE, PLACE));
     }
 
+    private static void lastPartsFromEachWay() {
+        Check.by("then, from each way in which all that may END or fail, its LAST PART");
+        int[][] acts = {{LENGTH, 0, 0, 1, 0}, {LENGTH, 0, 1, 1, 0}, {GET, 0, 2, 1, 0}, {MAKE, 0, 1, -1, 0}, {COPY, 1, 0, 2, 0},
+            {DIVIDE, 0, 0, 0, 0}, {FAIL, 0, 0, 0, 0}, {THIN, 0, 1, 0, 0}};
+        for (int failure = NOTHING; failure <= ROOM; failure++) {
+            ThrowReports x = new ThrowReports();
+            x.given(1, set(2));
+            x.given(2, set(1));
+            int[] act = acts[failure - 1];
+            int body = x.act(act[0], act[1], act[2], act[3], act[4]);
+            int quiet = x.act(NUMBER, 0, 0, 0, 0);
+            int move = x.act(MOVE, 0, 2, 0, 0);
+            int next = x.act(NUMBER, 0, 0, 0, 0);
+            int size = x.act(MAKE, 0, 1, -1, 0);
+            boolean ends = failure == PLACE || failure == ZERO || failure == ROOM;
+            int may = set(failure) | (ends ? set(END) : 0);
+            Check.due("alone", x.report(body), may);
+            Check.due("a LAST PART that ENDS", x.report(x.guard(body, 0, -1, quiet)), may);
+            Check.due("AHEAD of it", x.ahead(quiet, 0), failure == ROOM ? set(0, 5) : set(0));
+            int moved = x.guard(body, 0, -1, move);
+            Check.due("goes on by " + failure, x.report(x.guard(moved, set(failure), next, -1)), set(END));
+            Check.due("with the LAST PART's STATE", x.ahead(next, 0), set(1));
+            int lost = x.guard(body, 0, -1, size);
+            Check.due("a LAST PART that fails", x.report(lost), set(SIZE));
+            Check.due("LOST", x.guarded(lost, 1), set(failure));
+            int handled = x.guard(x.act(FAIL, 0, 0, 0, 0), -1, body, size);
+            Check.due("behind a HANDLER", x.report(handled), set(SIZE));
+            Check.due("LOST", x.guarded(handled, 1), set(failure));
+        }
+    }
+
     private static void vains() {
         Check.by("A GUARD's VAIN FAILURES are those of its set (1 to 8) by which its BODY may fail at none of these times");
         for (int set = 0; set < 1024; set++) {
@@ -601,6 +633,43 @@ public final class ReportEdgesTest extends Words {
         x.given(0, set(0, 1, 2));
         x.report(guard);
         Check.due("VAIN as at first", x.guarded(guard, 0), ANY & ~set(NOTHING, UNLIKE, PLACE));
+        latestReportOfParts();
+    }
+
+    /** From a narrower START nothing of the REPORT before is left, neither AHEAD of parts nor LOST. */
+    private static void latestReportOfParts() {
+        ThrowReports x = new ThrowReports();
+        int get = x.act(GET, 0, 0, 1, 0);
+        int quiet = x.act(NUMBER, 0, 0, 0, 0);
+        int length = x.act(LENGTH, 0, 0, 1, 0);
+        int guard = x.guard(get, set(NOTHING, UNLIKE), quiet, length);
+        int make = x.act(MAKE, 0, 2, 1, 0);
+        int made = x.guard(make, set(ROOM), quiet, length);
+        for (int times = 0; times < 2; times++) {
+            x.given(0, set(0, 1, 2));
+            Check.due("from a wide START", x.report(guard), set(END, NOTHING, UNLIKE, PLACE));
+            Check.due("AHEAD of the HANDLER", x.ahead(quiet, 0), set(0, 2));
+            Check.due("AHEAD of the LAST PART", x.ahead(length, 0), set(0, 1, 2));
+            Check.due("after ROOM", x.report(made), set(END, NOTHING, UNLIKE));
+            Check.due("AHEAD of the HANDLER", x.ahead(quiet, 0), set(0, 1, 2));
+            x.given(0, set(2));
+            Check.due("from a narrow START", x.report(guard), set(UNLIKE));
+            Check.due("AHEAD of the HANDLER", x.ahead(quiet, 0), set(2));
+            Check.due("AHEAD of the LAST PART", x.ahead(length, 0), set(2));
+            Check.due("after ROOM", x.report(made), set(UNLIKE));
+            Check.due("AHEAD of the HANDLER", x.ahead(quiet, 0), set(2));
+            x.given(0, set(1));
+            Check.due("from another START", x.report(guard), set(END, PLACE));
+            Check.due("the HANDLER is not REACHED", x.reached(quiet) + x.ahead(quiet, 0), 0);
+        }
+        int zero = x.act(DIVIDE, 0, 0, 0, 0);
+        int lost = x.guard(get, 0, -1, zero);
+        x.given(0, set(0, 1, 2));
+        losesJust(x, "from a wide START", lost, set(NOTHING, UNLIKE, PLACE));
+        x.given(0, set(0));
+        losesJust(x, "from a narrow START", lost, set(NOTHING));
+        x.report(zero);
+        Check.due("LOST of what is not REACHED", x.guarded(lost, 1), 0);
     }
 
     private static void nodesNotInIt() {

@@ -33,6 +33,26 @@ abstract class Words {
         return x;
     }
 
+    /** As oneOfEach(), but neither SLOTS 10 and 11, REGISTERS nor the items of rows are as at first. */
+    static ThrowReports oneOfEachFilled() {
+        ThrowReports x = oneOfEach();
+        x.act(NUMBER, 0, 70, 0, 0);
+        for (int kind = 1; kind <= 4; kind++) {
+            x.both(x.count(2) - 1, x.act(SET, kind, kind, 1, 0));
+        }
+        x.run(x.count(2) - 1);
+        x.forget();
+        does(x, LAY, 5, 5, 1, 1);
+        does(x, LAY, 6, 6, 1, 8);
+        does(x, LAY, 7, 7, 1, 9);
+        does(x, FIGURE, 10, 0, 6);
+        does(x, FIGURE, 11, 1, 7);
+        for (int r = 1; r < 8; r++) {
+            does(x, NUMBER, r, 70 + r, 0);
+        }
+        return x;
+    }
+
     /** SLOT becomes a row of a KIND with some items, or a FIGURE or ROUND with NUMBER 5. */
     static int makeOne(ThrowReports x, int slot, int kind, int length) {
         if (kind >= 8) {
