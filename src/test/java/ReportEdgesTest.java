@@ -76,7 +76,8 @@ public final class ReportEdgesTest extends Words {
     }
 
     private static void slotsAs() {
-        Check.by("SLOT s AS k fails, if the SLOT's set has a KIND above 0 that IS not k, with these alone in the set; it leaves the others.");
+        Check.by("SLOT s AS k fails, if the SLOT's set has a KIND above 0 that IS not k, with these alone in the set; "
+            + "it leaves the others.");
         for (int kind = 1; kind <= 9; kind++) {
             for (int set = 1; set <= ALL; set++) {
                 Probe p = new Probe(MOVE, 2, 1, kind, 0);
@@ -244,7 +245,8 @@ public final class ReportEdgesTest extends Words {
     }
 
     private static void lays() {
-        Check.by("STORE of LAY: if SLOT a's set has 7 and SLOT d's has 8, with the STATE as it is; it leaves: a's set without 7, if d's is just 8; ..");
+        Check.by("STORE of LAY: if SLOT a's set has 7 and SLOT d's has 8, with the STATE as it is; it leaves: a's set "
+            + "without 7, if d's is just 8; ..");
         int[] rows = {0, 5, 6, 7, 2};
         int[] laid = {0, 1, 8, 9, 3};
         for (int kind = 5; kind <= 7; kind++) {
@@ -328,7 +330,8 @@ public final class ReportEdgesTest extends Words {
     }
 
     private static void copies() {
-        Check.by("COPY: NOTHING, if one of both sets has 0, ..; it leaves both without 0 (none, if one is empty then). STORE, .. (none, if there are none). PLACE.");
+        Check.by("COPY: NOTHING, if one of both sets has 0, ..; it leaves both without 0 (none, if one is empty "
+            + "then). STORE, .. (none, if there are none). PLACE.");
         for (int one = 1; one <= ALL; one++) {
             for (int other = 1; other <= ALL; other++) {
                 if (Integer.bitCount(one) <= 2 && Integer.bitCount(other) <= 2 || (one * 31 + other) % 97 == 0) {
@@ -386,7 +389,8 @@ public final class ReportEdgesTest extends Words {
     }
 
     private static void choices() {
-        Check.by("A CHOICE: the one from the STATE with those KINDS of SLOT s that ARE k (0: just 0), the other one with those that are not; what would be empty is not gone.");
+        Check.by("A CHOICE: the one from the STATE with those KINDS of SLOT s that ARE k (0: just 0), the other one "
+            + "with those that are not; what would be empty is not gone.");
         for (int kind = 0; kind <= 9; kind++) {
             for (int set = 1; set <= ALL; set++) {
                 ThrowReports x = new ThrowReports();
@@ -408,7 +412,8 @@ public final class ReportEdgesTest extends Words {
     }
 
     private static void handlers() {
-        Check.by("A GUARD: the FAILURES of its set with which its BODY may fail come to its HANDLER, put together; with it, or, without one, right away it ENDS");
+        Check.by("A GUARD: the FAILURES of its set with which its BODY may fail come to its HANDLER, put together; "
+            + "with it, or, without one, right away it ENDS");
         for (int set = 0; set < 512; set += 2) {
             ThrowReports x = new ThrowReports();
             x.given(0, set(0, 1, 2));
@@ -430,7 +435,8 @@ public final class ReportEdgesTest extends Words {
     }
 
     private static void lastParts() {
-        Check.by("then, from each way in which all that may END or fail, its LAST PART: where that may END the way goes on with that STATE; where that may fail, it fails so.");
+        Check.by("then, from each way in which all that may END or fail, its LAST PART: where that may END the way "
+            + "goes on with that STATE; where that may fail, it fails so.");
         ThrowReports x = new ThrowReports();
         x.given(0, set(0, 1, 2));
         int get = x.act(GET, 0, 0, 1, 0);
@@ -518,7 +524,8 @@ public final class ReportEdgesTest extends Words {
     }
 
     private static void losts() {
-        Check.by("its LOST ones those with which BODY and HANDLER together may fail, on some way on which the LAST PART may fail then.");
+        Check.by("its LOST ones those with which BODY and HANDLER together may fail, on some way on which the LAST "
+            + "PART may fail then.");
         ThrowReports x = new ThrowReports();
         x.given(0, set(0, 1, 2));
         int get = x.act(GET, 0, 0, 1, 0);
