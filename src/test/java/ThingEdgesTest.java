@@ -243,6 +243,14 @@ public final class ThingEdgesTest extends Words {
             Check.due("a row of no rows", does(x, DEEP, 3, 0, MAX), 0);
             Check.due("a thin row of none", does(x, THIN, 4, 0, 0), 0);
             Check.due("a FIGURE has no items", does(x, FIGURE, 5, 0, 3000), 0);
+            Check.due("a ROUND has no items", does(x, FIGURE, 6, 1, 3000), 0);
+            int[] kinds = {1, 1, 5, 5, 8, 9};
+            int before = way == 3 ? 2 : 1;
+            for (int slot = 1; slot <= 6; slot++) {
+                Check.due("the THING in SLOT " + slot, x.slot(slot, 0), before + slot);
+                Check.due("its KIND", x.slot(slot, 1), kinds[slot - 1]);
+            }
+            Check.due("THINGS", x.count(0), before + 6);
             Check.due("items", x.count(1), 3000);
         }
     }
