@@ -240,10 +240,6 @@ public final class ThrowReports {
             return kind >= 0 && kind < ARE.length ? ARE[kind] : 0;
         }
 
-        static boolean is(int kind, int other) {
-            return has(thoseThatAre(other), kind);
-        }
-
         static int thoseThatMeet(int kind) {
             return kind >= 0 && kind < MEET.length ? MEET[kind] : 0;
         }
@@ -379,12 +375,12 @@ public final class ThrowReports {
         }
 
         private int bringOneByOne(int from, int at, int to, int place, int length) {
-            int wanted = Kinds.ofItems(kinds[to]);
+            int fitting = Kinds.thoseThatAre(Kinds.ofItems(kinds[to])) | Kinds.JUST_NOTHING;
             int source = starts[from] + at;
             int target = starts[to] + place;
             for (int i = 0; i < length; i++) {
                 int thing = (int) items[source + i];
-                if (thing != 0 && !Kinds.is(kindOf(thing), wanted)) {
+                if (!Kinds.has(fitting, kindOf(thing))) {
                     return i;
                 }
                 items[target + i] = thing;
